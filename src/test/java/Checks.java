@@ -1,0 +1,64 @@
+/** Counts wrong answers, tells each of them, and ends a test with exit code 1 if there was one. */
+final class Checks {
+    private final String test;
+    private int made = 0;
+    private int wrong = 0;
+
+    Checks(String test) {
+        this.test = test;
+    }
+
+    void due(String what, Object got, Object want) {
+        made++;
+        if (!got.equals(want)) {
+            wrong++;
+            System.out.println(test + ": " + what + " answered " + got + ", due is " + want);
+        }
+    }
+
+    void end() {
+        System.out.println(test + ": " + made + " checks, " + wrong + " wrong");
+        if (wrong != 0 || made == 0) {
+            System.exit(1);
+        }
+    }
+
+    /** Runs the plan and tells its rows as "1,2,3 4,5,6", or the refusal as its number alone. */
+    static String ran(FusedPlans x, int root) {
+        int rows = x.run(root);
+        return rows < 0 ? "refused " + rows : shown(x, rows);
+    }
+
+    static String shown(FusedPlans x, int rows) {
+        StringBuilder text = new StringBuilder();
+        for (int row = 0; row < rows; row++) {
+            text.append(row == 0 ? "" : " ");
+            for (int column = 0; column < x.width(); column++) {
+                text.append(column == 0 ? "" : ",").append(x.cell(row, column));
+            }
+        }
+        return text.toString();
+    }
+
+    /** A new object whose table 0 has these rows of three columns each, given one after the other. */
+    static FusedPlans withTable0(int... cells) {
+        FusedPlans x = new FusedPlans();
+        fill(x, 0, cells);
+        return x;
+    }
+
+    static void fill(FusedPlans x, int table, int... cells) {
+        for (int i = 0; i + 2 < cells.length; i += 3) {
+            x.insert(table, cells[i], cells[i + 1], cells[i + 2]);
+        }
+    }
+
+    /** Makes scans of table 0 until the plan has this many nodes; the last of them is not used. */
+    static void fillPlanUpTo(FusedPlans x, int nodes) {
+        for (int i = 0; i < nodes; i++) {
+            if (x.scan(0) >= nodes - 1) {
+                return;
+            }
+        }
+    }
+}
