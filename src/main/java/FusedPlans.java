@@ -374,7 +374,8 @@ public final class FusedPlans {
                 runDistinct(node);
                 break;
             default:
-                runUnion(node);
+                addAllRows(node, nodeLeft[node]);
+                addAllRows(node, nodeRight[node]);
                 break;
         }
     }
@@ -545,11 +546,6 @@ public final class FusedPlans {
                 addCopy(node, from);
             }
         }
-    }
-
-    private void runUnion(int node) {
-        addAllRows(node, nodeLeft[node]);
-        addAllRows(node, nodeRight[node]);
     }
 
     private void addAllRows(int node, int input) {
