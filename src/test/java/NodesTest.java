@@ -21,6 +21,7 @@ public final class NodesTest {
         groupGives();
         groupRefuses();
         distinctGives();
+        distinctForgetsEarlierRuns();
         distinctRefuses();
         unionGives();
         unionRefuses();
@@ -232,6 +233,11 @@ public final class NodesTest {
         CHECKS.due("width 1 and 3", x.width(), 4);
         x.empty(0);
         CHECKS.due("join with no row", x.run(3), 0);
+        x = Checks.withTable0(4, 5, 6, 6, 4, 5);
+        x.scan(0);
+        x.scan(0);
+        x.join(0, 1, 2, 1);
+        CHECKS.due("columns 2 and 1", Checks.ran(x, 2), "6,4,5,4,5,6");
     }
 
     private static void joinRefuses() {
@@ -400,6 +406,21 @@ public final class NodesTest {
         x.distinct(2);
         CHECKS.due("rows that differ in the last column", Checks.ran(x, 3),
             "5,6,7,5,6,7 5,6,7,5,6,8 5,6,8,5,6,7 5,6,8,5,6,8");
+    }
+
+    private static void distinctForgetsEarlierRuns() {
+        FusedPlans x = Checks.withTable0(1, 1, 1, 2, 2, 2, 3, 3, 3);
+        x.scan(0);
+        x.distinct(0);
+        x.run(1);
+        x.empty(0);
+        Checks.fill(x, 0, 3, 3, 3, 2, 2, 2, 3, 3, 3, 1, 1, 1);
+        CHECKS.due("rows that an earlier run gave too", Checks.ran(x, 1), "1,1,1 2,2,2 3,3,3");
+        x.clearPlan();
+        x.scan(0);
+        x.pick(0, 0, -1, -1);
+        x.distinct(1);
+        CHECKS.due("where a wider node has been", Checks.ran(x, 2), "1 2 3");
     }
 
     private static void distinctRefuses() {
