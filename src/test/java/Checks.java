@@ -1,22 +1,48 @@
+import java.util.function.Supplier;
+
 /** Counts wrong answers, tells each of them, and ends a test with exit code 1 if there was one. */
 final class Checks {
     private final String test;
+    private String sentence = "";
     private int made = 0;
+    private int madeBefore = 0;
     private int wrong = 0;
 
     Checks(String test) {
         this.test = test;
     }
 
+    /** Names the sentence of the document that the next checks hold, and sees that the one before was checked. */
+    void sentence(String next) {
+        endSentence();
+        sentence = ": " + next;
+        madeBefore = made;
+    }
+
+    private void endSentence() {
+        if (!sentence.isEmpty() && made == madeBefore) {
+            wrong++;
+            System.out.println(test + sentence + ": nothing was checked");
+        }
+    }
+
     void due(String what, Object got, Object want) {
         made++;
         if (!got.equals(want)) {
             wrong++;
-            System.out.println(test + ": " + what + " answered " + got + ", due is " + want);
+            System.out.println(test + sentence + ": " + what + " answered " + got + ", due is " + want);
         }
     }
 
+    /** The call is refused in this way, and an object that was given it is as one that was not. */
+    void refused(Supplier<FusedPlans> maker, Call call, int refusal) {
+        FusedPlans x = maker.get();
+        due(call.toString(), call.on(x), refusal);
+        due("the state after the refused " + call, Snapshot.of(x), Snapshot.of(maker.get()));
+    }
+
     void end() {
+        endSentence();
         System.out.println(test + ": " + made + " checks, " + wrong + " wrong");
         if (wrong != 0 || made == 0) {
             System.exit(1);
@@ -31,9 +57,10 @@ final class Checks {
 
     static String shown(FusedPlans x, int rows) {
         StringBuilder text = new StringBuilder();
+        int width = x.width();
         for (int row = 0; row < rows; row++) {
             text.append(row == 0 ? "" : " ");
-            for (int column = 0; column < x.width(); column++) {
+            for (int column = 0; column < width; column++) {
                 text.append(column == 0 ? "" : ",").append(x.cell(row, column));
             }
         }

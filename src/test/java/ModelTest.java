@@ -1,8 +1,10 @@
 /** All promises: long runs of mixed calls, each answer held against ReferencePlans. */
 public final class ModelTest {
     private static final Checks CHECKS = new Checks("ModelTest");
-    private static final int OBJECTS = 4000;
-    private static final int CALLS = 150;
+    private static final int OBJECTS = 8000;
+    // Nothing is promised of an object after its 512th call.
+    private static final int CALLS = 512;
+    private static final int CALLS_AFTER_A_RUN = 1 + 21 * 7;
     private static final String[] NODE_CALLS = {"scan", "scan", "scan", "filter", "extend", "pick", "join", "join",
         "semi", "anti", "group", "distinct", "union", "union"};
     private static final int[] ODD = {-2, -1, 3, 6, 7, 12, Integer.MIN_VALUE, Integer.MAX_VALUE, 1 << 16, 1 << 30};
@@ -26,23 +28,27 @@ public final class ModelTest {
         FusedPlans x = new FusedPlans();
         ReferencePlans model = new ReferencePlans();
         int nodes = 0;
-        for (int call = 0; call < CALLS; call++) {
-            String name = nextName(call);
-            int a = name.equals("insert") || name.equals("empty") || name.equals("scan") ? below(3) : node(nodes);
-            int b = argument(name, 1, nodes);
-            int c = argument(name, 2, nodes);
-            int d = argument(name, 3, nodes);
-            if (below(40) == 0) {
-                a = ODD[below(ODD.length)];
-            }
-            int want = model.call(name, a, b, c, d);
-            String told = "object " + object + ", call " + call + ": " + name + " " + a + " " + b + " " + c + " " + d;
-            CHECKS.due(told, call(x, name, a, b, c, d), want);
-            nodes = name.equals("clearPlan") ? 0 : nodes + (isNodeCall(name) && want >= 0 ? 1 : 0);
-            if (name.equals("run")) {
-                compareResult(told, x, model);
+        int turn = 0;
+        for (int calls = 1; calls + CALLS_AFTER_A_RUN <= CALLS; calls++) {
+            Call call = nextCall(turn, nodes);
+            turn++;
+            int want = model.call(call);
+            String told = "object " + object + ", call " + calls + ": " + call;
+            CHECKS.due(told, call.on(x), want);
+            nodes = call.name().equals("clearPlan") ? 0 : nodes + (isNodeCall(call.name()) && want >= 0 ? 1 : 0);
+            if (call.name().equals("run")) {
+                calls += compareResult(told, x, model);
             }
         }
+    }
+
+    private static Call nextCall(int turn, int nodes) {
+        String name = nextName(turn);
+        int a = name.equals("insert") || name.equals("empty") || name.equals("scan") ? below(3) : node(nodes);
+        int b = argument(name, 1, nodes);
+        int c = argument(name, 2, nodes);
+        int d = argument(name, 3, nodes);
+        return new Call(name, below(40) == 0 ? ODD[below(ODD.length)] : a, b, c, d);
     }
 
     private static boolean isNodeCall(String name) {
@@ -54,8 +60,8 @@ public final class ModelTest {
         return false;
     }
 
-    private static String nextName(int call) {
-        int choice = call < 12 ? below(40) : 30 + below(70);
+    private static String nextName(int turn) {
+        int choice = turn < 12 ? below(40) : 30 + below(70);
         if (choice < 35) {
             return "insert";
         }
@@ -90,36 +96,21 @@ public final class ModelTest {
         return below(below(4) == 0 ? 6 : 3);
     }
 
-    private static void compareResult(String told, FusedPlans x, ReferencePlans model) {
-        CHECKS.due(told + ", then width", x.width(), model.call("width", 0, 0, 0, 0));
-        for (int row = 0; row < 21; row++) {
-            for (int column = 0; column < 7; column++) {
-                int got = x.cell(row, column);
-                if (got != model.call("cell", row, column, 0, 0)) {
-                    CHECKS.due(told + ", then cell " + row + " " + column, got, model.call("cell", row, column, 0, 0));
+    /** Looks at the last result and at one row and one column more, and answers how many calls that took. */
+    private static int compareResult(String told, FusedPlans x, ReferencePlans model) {
+        int width = model.call(new Call("width"));
+        int rows = model.resultRows();
+        CHECKS.due(told + ", then width()", x.width(), width);
+        for (int row = 0; row <= rows; row++) {
+            for (int column = 0; column <= width; column++) {
+                Call cell = new Call("cell", row, column);
+                int got = cell.on(x);
+                int want = model.call(cell);
+                if (got != want) {
+                    CHECKS.due(told + ", then " + cell, got, want);
                 }
             }
         }
-    }
-
-    private static int call(FusedPlans x, String name, int a, int b, int c, int d) {
-        switch (name) {
-            case "insert": return x.insert(a, b, c, d);
-            case "empty": return x.empty(a);
-            case "scan": return x.scan(a);
-            case "filter": return x.filter(a, b, c, d);
-            case "extend": return x.extend(a, b, c, d);
-            case "pick": return x.pick(a, b, c, d);
-            case "join": return x.join(a, b, c, d);
-            case "semi": return x.semi(a, b, c, d);
-            case "anti": return x.anti(a, b, c, d);
-            case "group": return x.group(a, b, c, d);
-            case "distinct": return x.distinct(a);
-            case "union": return x.union(a, b);
-            case "clearPlan": x.clearPlan(); return 0;
-            case "run": return x.run(a);
-            case "width": return x.width();
-            default: return x.cell(a, b);
-        }
+        return 1 + (rows + 1) * (width + 1);
     }
 }

@@ -43,9 +43,13 @@ final class ReferencePlans {
     private List<int[]> result = List.of();
     private int resultWidth = 0;
 
-    /** Carries out the call with this name; clearPlan answers 0. */
-    int call(String name, int a, int b, int c, int d) {
-        switch (name) {
+    /** Carries out the call; clearPlan answers 0. */
+    int call(Call call) {
+        int a = call.argument(0);
+        int b = call.argument(1);
+        int c = call.argument(2);
+        int d = call.argument(3);
+        switch (call.name()) {
             case "insert": return insert(a, b, c, d);
             case "empty": return empty(a);
             case "scan": return scan(a);
@@ -63,6 +67,10 @@ final class ReferencePlans {
             case "width": return resultWidth;
             default: return cell(a, b);
         }
+    }
+
+    int resultRows() {
+        return result.size();
     }
 
     private int insert(int table, int a, int b, int c) {
