@@ -19,6 +19,7 @@ public final class RunBoundaryTest {
         overflowOfEqualRows();
         overflowBelowTheRoot();
         overflowFarAboveTheLimit();
+        overflowOfTheTwelfthNode();
         overflowOfOtherPlans();
         overflowChangesNothing();
         runAnswersHowManyRows();
@@ -241,6 +242,38 @@ public final class RunBoundaryTest {
         CHECKS.due("nine rows after it", x.run(11), 9);
         CHECKS.due("400 rows again", x.run(8), FusedPlans.OVERFLOW);
         CHECKS.due("20 rows after it", x.run(7), 20);
+    }
+
+    private static void overflowOfTheTwelfthNode() {
+        CHECKS.sentence("Promise 15, \"OVERFLOW if .. root included, gives more than 20 rows\", the twelfth node");
+        Call join = new Call("join", 8, 10, 0, 0);
+        int[] four = {1, 1, 1, 1};
+        int[] five = {1, 1, 1, 1, 1};
+        int[] six = {1, 1, 1, 1, 1, 1};
+        CHECKS.due("a join of 20 rows", twelfth(four, five, join).run(11), 20);
+        CHECKS.refused(() -> twelfth(new int[] {1, 1, 1, 1, 2}, new int[] {1, 1, 1, 1, 1, 2}, join), new Call("run", 11),
+            FusedPlans.OVERFLOW);
+        CHECKS.refused(() -> twelfth(six, six, join), new Call("run", 11), FusedPlans.OVERFLOW);
+        Call union = new Call("union", 2, 7);
+        CHECKS.due("a union of 20 rows", twelfth(new int[] {1, 1}, five, union).run(11), 20);
+        CHECKS.due("a union of 22 rows", twelfth(new int[] {1, 1, 2}, new int[] {1, 1, 1, 1, 1, 2}, union).run(11),
+            FusedPlans.OVERFLOW);
+        CHECKS.due("a union of 32 rows", twelfth(four, four, union).run(11), FusedPlans.OVERFLOW);
+    }
+
+    /** Nodes 2 and 7 join tables 0 and 1, both of width 6; 8 and 10 are scans of them; this call makes node 11. */
+    private static FusedPlans twelfth(int[] left, int[] right, Call call) {
+        FusedPlans x = joinPlan(left, right);
+        x.scan(0);
+        x.scan(1);
+        x.scan(0);
+        x.scan(1);
+        x.join(5, 6, 0, 0);
+        x.scan(0);
+        x.distinct(3);
+        x.scan(1);
+        CHECKS.due("the twelfth node", call.on(x), 11);
+        return x;
     }
 
     private static void overflowOfOtherPlans() {

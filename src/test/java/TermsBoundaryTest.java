@@ -21,6 +21,8 @@ public final class TermsBoundaryTest {
         extendOfEveryRow();
         pickOfEveryRow();
         joinOfNoneAndAll();
+        joinOfOtherWidths();
+        rowsOfEarlierRuns();
         semiAtItsEdges();
         antiAtItsEdges();
         groupPerValue();
@@ -330,6 +332,64 @@ public final class TermsBoundaryTest {
             MIN + ",1,1," + MIN + ",1,1 " + MAX + ",2,2," + MAX + ",2,2");
     }
 
+    private static void joinOfOtherWidths() {
+        CHECKS.sentence("join, \"the columns of x followed by the columns of y; width is the sum\"");
+        for (int left = 1; left <= 5; left++) {
+            for (int right = 1; left + right <= 6; right++) {
+                FusedPlans x = tables(new int[] {0, 1, 2}, new int[] {0, 10, 20});
+                int node = x.join(ofWidth(x, 0, left), ofWidth(x, 1, right), left - 1, right - 1);
+                boolean equal = left != 2 && left != 3 && right != 2 && right != 3;
+                CHECKS.due("last columns of widths " + left + " and " + right, x.run(node), equal ? 1 : 0);
+                CHECKS.due("width", x.width(), left + right);
+                x.clearPlan();
+                node = x.join(ofWidth(x, 0, left), ofWidth(x, 1, right), 0, 0);
+                CHECKS.due("widths " + left + " and " + right, Checks.ran(x, node), row(left, 1) + "," + row(right, 10));
+            }
+        }
+    }
+
+    /** The first columns of 0, 1, 2, 0, 0, 0, each of them so many times as large. */
+    private static String row(int width, int factor) {
+        StringBuilder text = new StringBuilder("0");
+        for (int column = 1; column < width; column++) {
+            text.append(",").append(column < 3 ? column * factor : 0);
+        }
+        return text.toString();
+    }
+
+    /** Makes a node of this width above a scan of the table; columns added at the end are 0. */
+    private static int ofWidth(FusedPlans x, int table, int width) {
+        int node = x.scan(table);
+        if (width < 3) {
+            return x.pick(node, 0, width == 2 ? 1 : -1, -1);
+        }
+        for (int columns = 3; columns < width; columns++) {
+            node = x.extend(node, 1, 0, 0);
+        }
+        return node;
+    }
+
+    private static void rowsOfEarlierRuns() {
+        CHECKS.sentence("\"gives the rows of the table as they are when the plan is run\", through every operator");
+        String[] due = {"2,2,2", "2,2,2,4", "2", "2,2,2,2,2,2", "2,2,2", "", "2,2", "2,2,2", "2,2,2 2,2,2"};
+        Call[] calls = {new Call("filter", 0, 0, 5, 0), new Call("extend", 0, 0, 0, 0), new Call("pick", 0, 0, -1, -1),
+            new Call("join", 0, 1, 0, 0), new Call("semi", 0, 1, 0, 0), new Call("anti", 0, 1, 0, 0),
+            new Call("group", 0, 0, 0, 0), new Call("distinct", 0), new Call("union", 0, 1)};
+        for (int i = 0; i < calls.length; i++) {
+            FusedPlans x = tables(new int[] {1, 1, 1, 2, 2, 2, 3, 3, 3}, new int[] {3, 3, 3, 2, 2, 2, 2, 2, 2});
+            x.scan(0);
+            x.scan(1);
+            calls[i].on(x);
+            x.run(2);
+            x.empty(0);
+            x.empty(1);
+            CHECKS.due(calls[i] + " of emptied tables", x.run(2), 0);
+            x.insert(0, 2, 2, 2);
+            x.insert(1, 2, 2, 2);
+            CHECKS.due(calls[i] + " of fewer rows", Checks.ran(x, 2), due[i]);
+        }
+    }
+
     private static void semiAtItsEdges() {
         CHECKS.sentence("semi \"gives the rows x of l for which r has at least one row y with x[lc] = y[rc]\"");
         int[] left = {1, 0, 0, 1, 0, 0, 2, 0, 0};
@@ -340,6 +400,7 @@ public final class TermsBoundaryTest {
         overScans(tables(left, new int[] {1, 2, 0}), semi, "");
         overScans(tables(left, new int[0]), semi, "");
         overScans(tables(new int[0], new int[] {0, 0, 1}), semi, "");
+        overScans(tables(new int[] {3, 4, 5, 5, 4, 3}, new int[] {7, 5, 3}), new Call("semi", 0, 1, 2, 1), "3,4,5");
     }
 
     private static void antiAtItsEdges() {
@@ -352,6 +413,7 @@ public final class TermsBoundaryTest {
         overScans(tables(left, new int[] {1, 2, 0}), anti, "1,0,0 2,0,0 2,0,0");
         overScans(tables(left, new int[0]), anti, "1,0,0 2,0,0 2,0,0");
         overScans(tables(new int[0], new int[] {0, 0, 1}), anti, "");
+        overScans(tables(new int[] {3, 4, 5, 5, 4, 3}, new int[] {7, 5, 3}), new Call("anti", 0, 1, 2, 1), "5,4,3");
     }
 
     private static void groupPerValue() {
