@@ -23,6 +23,10 @@ public final class FusedPlans {
     // One slot above the limit: rows that are too many are written there, and only their number matters.
     private static final int BAG_SLOTS = MAX_ROWS + 1;
 
+    private static final int TABLE_CELLS = TABLES * TABLE_ROWS * TABLE_WIDTH;
+    private static final int BAG_CELLS = MAX_NODES * BAG_SLOTS * MAX_WIDTH;
+    private static final int RESULT_CELLS = MAX_ROWS * MAX_WIDTH;
+
     private static final int SCAN = 0;
     private static final int FILTER = 1;
     private static final int EXTEND = 2;
@@ -52,7 +56,7 @@ public final class FusedPlans {
     private static final int LEAST = 2;
     private static final int GREATEST = 3;
 
-    private final int[] tableCells = new int[TABLES * TABLE_ROWS * TABLE_WIDTH];
+    private final int[] tableCells = new int[TABLE_CELLS];
     private final int[] tableRows = new int[TABLES];
 
     private int nodeCount;
@@ -68,10 +72,10 @@ public final class FusedPlans {
 
     // What the nodes gave in the run that is under way; it means nothing between runs.
     private final boolean[] inPlan = new boolean[MAX_NODES];
-    private final int[] bagCells = new int[MAX_NODES * BAG_SLOTS * MAX_WIDTH];
+    private final int[] bagCells = new int[BAG_CELLS];
     private final int[] bagRows = new int[MAX_NODES];
 
-    private final int[] resultCells = new int[MAX_ROWS * MAX_WIDTH];
+    private final int[] resultCells = new int[RESULT_CELLS];
     private int resultRows;
     private int resultWidth;
 

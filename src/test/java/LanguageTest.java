@@ -65,6 +65,7 @@ public final class LanguageTest {
                 if (constant) {
                     String kind = ((VariableTree) member).getType().toString();
                     CHECKS.due("rule 5: " + member, kind.equals("int") || kind.equals("long"), true);
+                    CHECKS.due("rule 5: final " + member, member.toString().contains(" final "), true);
                 }
             } else {
                 CHECKS.due("rule 1: a member", member.getKind(), Tree.Kind.METHOD);
@@ -120,6 +121,17 @@ public final class LanguageTest {
     }
 
     private static final class Forbidden extends TreeScanner<Void, Void> {
+        @Override
+        public Void visitNewArray(NewArrayTree array, Void nothing) {
+            boolean oneLength = array.getDimensions().size() == 1 && array.getInitializers() == null;
+            CHECKS.due("rule 4: one length of " + array, oneLength, true);
+            for (ExpressionTree length : array.getDimensions()) {
+                CHECKS.due("rule 4: a literal or a constant in " + array, length.toString().matches("[1-9][0-9]*|[A-Z_]+"),
+                    true);
+            }
+            return super.visitNewArray(array, nothing);
+        }
+
         @Override
         public Void scan(Tree tree, Void nothing) {
             if (tree != null && FORBIDDEN.contains(tree.getKind())) {

@@ -86,6 +86,7 @@ public final class RefusalOrderTest {
         group();
         distinct();
         union();
+        noNodeWhateverElse();
         CHECKS.end();
     }
 
@@ -239,6 +240,41 @@ public final class RefusalOrderTest {
             bothPlans(call.with(FIRST, node).with(SECOND, node), FusedPlans.BAD_NODE);
             bothPlans(call.with(FIRST, node).with(SECOND, USED_THREE), FusedPlans.BAD_NODE);
             bothPlans(call.with(FIRST, USED_THREE).with(SECOND, node), FusedPlans.BAD_NODE);
+        }
+    }
+
+    private static void noNodeWhateverElse() {
+        CHECKS.sentence("Promises 5 to 13 and 15, BAD_NODE before all others, whatever the other arguments are");
+        for (int node : new int[] {-1, NOWHERE, MIN, MAX}) {
+            everyRest(new Call("filter", node, 0, 0, 0), SECOND);
+            everyRest(new Call("extend", node, 0, 0, 0), SECOND);
+            everyRest(new Call("pick", node, 0, 0, 0), SECOND);
+            everyRest(new Call("group", node, 0, 0, 0), SECOND);
+            everyRest(new Call("distinct", node), SECOND);
+            everyRest(new Call("run", node), SECOND);
+            for (String name : new String[] {"join", "semi", "anti"}) {
+                for (int other : new int[] {-1, 0, USED_WIDE, WIDE, THREE, NARROW, NOWHERE, MIN, MAX}) {
+                    everyRest(new Call(name, node, other, 0, 0), THIRD);
+                    everyRest(new Call(name, other, node, 0, 0), THIRD);
+                }
+            }
+            for (int other : new int[] {-1, 0, USED_WIDE, WIDE, THREE, NARROW, NOWHERE, MIN, MAX}) {
+                everyRest(new Call("union", node, other), THIRD);
+                everyRest(new Call("union", other, node), THIRD);
+            }
+        }
+    }
+
+    /** BAD_NODE is answered with each of some good and bad arguments at this place and at each one after it. */
+    private static void everyRest(Call call, int place) {
+        if (place == call.arguments().length) {
+            CHECKS.due(call + " of a new object", call.on(new FusedPlans()), FusedPlans.BAD_NODE);
+            CHECKS.due(call + " of an open plan", call.on(openPlan()), FusedPlans.BAD_NODE);
+            CHECKS.due(call + " of a full plan", call.on(fullPlan()), FusedPlans.BAD_NODE);
+            return;
+        }
+        for (int argument : new int[] {MIN, -2, -1, 0, 2, 3, 6, MAX}) {
+            everyRest(call.with(place, argument), place + 1);
         }
     }
 }
